@@ -150,6 +150,10 @@ public final class PromisesTest {
         x.feed(0x77656172, 0x20373B20, 0, 0, 0);
         due("too many: the TAPE stays", x.text(21), -2);
         due("its first 7 bytes", x.text(7), 1);
+        HandsLet part = new HandsLet();
+        part.feed(0x6C617720, 0x72656E74, 0x20313C3D, 0x323B2020, 0x20202020);
+        due("law rent 1<, but not the = behind it", part.text(11), -1);
+        due("more must come at the length", part.fault(1), 11);
         textAnew();
     }
 
@@ -1016,6 +1020,8 @@ public final class PromisesTest {
         due("ten left", low.ask(0, 1), 10);
         HandsLet high = told("man a 98 0 0 9;man b 99 0 0 9;lease a b 0 1 1;");
         due("99 alone tells 100 from the others", high.ask(0, 0), 99);
+        HandsLet two = told("man a 1 0 0 9;man b 2 0 0 9;lease a b 0 1 1;");
+        due("so does 2", two.ask(0, 0), 2);
     }
 
     private static void chance() {
